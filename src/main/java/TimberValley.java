@@ -189,8 +189,7 @@ public final class TimberValley {
             log.comeOn(sky.today);
             logs[logCount] = log;
             logCount++;
-            land.logsLying[cell]++;
-            note(log, LYING);
+            become(log, LYING);
             scale += log.scaleBy(leaseRule);
         }
         return scale;
@@ -328,13 +327,9 @@ public final class TimberValley {
     }
 
     private void become(Log log, int state) {
-        if (log.became == LYING) {
-            land.logsLying[log.cell]--;
-        }
-        note(log, state);
-    }
-
-    private void note(Log log, int state) {
+        int lay = log.became == LYING ? 1 : 0;
+        int lies = state == LYING ? 1 : 0;
+        land.logsLying[log.cell] += lies - lay;
         log.change(state, sky.today, sky.today + land.far(log.cell) / 4);
     }
 
@@ -1132,7 +1127,7 @@ public final class TimberValley {
         private int cell;
         private int fellOn = 0;
         private int came = 0;
-        private int became = LYING;
+        private int became = NONE;
         private int changes = 0;
         private final int[] changeTo = new int[MAX_CHANGES];
         private final int[] changeDay = new int[MAX_CHANGES];
@@ -1380,7 +1375,7 @@ public final class TimberValley {
         }
 
         boolean isWord(String word) {
-            return wordIn(word) == 0;
+            return kind == WORD && isPart(word, 0, word.length());
         }
 
         /** Which word of a list (with single blanks between) the TOKEN is, from 0 on; or NONE. */
@@ -1470,6 +1465,18 @@ public final class TimberValley {
         private static final int MORE = 2;
         private static final int SEMICOLON = 3;
 
+        /** What the TOKEN at hand is to be. */
+        private static final int WANT_NOTHING = 0;
+        private static final int WANT_STATEMENT = 1;
+        private static final int WANT_DEED = 2;
+        private static final int WANT_AMOUNT = 3;
+        private static final int WANT_IF = 4;
+        private static final int WANT_TERM = 5;
+        private static final int WANT_WORD = 6;
+        private static final int WANT_RELATION = 7;
+        private static final int WANT_VALUE = 8;
+        private static final int WANT_JOINT = 9;
+
         private final int[] begins = new int[MAX_TEXTS];
         private final int[] lengths = new int[MAX_TEXTS];
         private final int[] verbs = new int[ALL_STATEMENTS];
@@ -1488,92 +1495,136 @@ public final class TimberValley {
         int tell(int from, Tape tape) {
             faultKind = 0;
             faultPlace = NONE;
-            int many = readText(tape);
+            begins[texts] = from;
+            lengths[texts] = 0;
+            readText(tape);
             tape.size = 0;
             if (faultKind != 0) {
                 return -1 - faultKind;
             }
-            begins[texts] = from;
-            lengths[texts] = many;
             texts++;
-            return many;
+            return lengths[texts - 1];
         }
 
-        private int readText(Tape tape) {
+        private void readText(Tape tape) {
+            int wanted = WANT_STATEMENT;
             tape.rewind();
-            for (int i = 0; i <= MAX_STATEMENTS; i++) {
-                if (tape.isEnd()) {
-                    return i;
-                }
-                if (!mayBegin(tape, tape.wordIn(VERBS) != NONE, i < MAX_STATEMENTS)
-                        || !readStatement(tape, texts * MAX_STATEMENTS + i)) {
-                    return 0;
+            for (int i = 0; i < Tape.MAX_BYTES && !tape.isEnd() && wanted != WANT_NOTHING; i++) {
+                wanted = take(tape, wanted);
+                if (wanted != WANT_NOTHING) {
+                    tape.next();
                 }
             }
-            return 0;
+            if (wanted != WANT_NOTHING && wanted != WANT_STATEMENT) {
+                refuse(tape, 1);
+            }
         }
 
-        private boolean readStatement(Tape tape, int statement) {
+        /** Takes the TOKEN at hand as what is wanted and answers what is wanted behind it. */
+        private int take(Tape tape, int wanted) {
+            switch (wanted) {
+                case WANT_STATEMENT:
+                    return takeVerb(tape);
+                case WANT_DEED:
+                    return takeObject(tape, tape.wordIn(DEEDS));
+                case WANT_AMOUNT:
+                    return takeObject(tape, tape.number());
+                case WANT_IF:
+                    return tape.isWord("if") ? WANT_TERM : refuse(tape, 1);
+                case WANT_TERM:
+                    return takeTerm(tape);
+                case WANT_WORD:
+                    return takeWord(tape, tape.wordIn(WORDS));
+                case WANT_RELATION:
+                    return takeRelation(tape);
+                case WANT_VALUE:
+                    return takeValue(tape);
+                default:
+                    return takeJoint(tape);
+            }
+        }
+
+        private int takeVerb(Tape tape) {
             int verb = tape.wordIn(VERBS);
-            verbs[statement] = verb;
-            tape.next();
-            int object = verb == BAR ? tape.wordIn(DEEDS) : tape.number();
-            objects[statement] = object;
-            return take(tape, object != NONE)
-                    && take(tape, tape.isWord("if"))
-                    && readCondition(tape, statement)
-                    && take(tape, tape.sign() == SEMICOLON);
-        }
-
-        private boolean readCondition(Tape tape, int statement) {
-            for (int i = 0; i <= MAX_TERMS; i++) {
-                boolean fits = tape.isWord("not") || tape.wordIn(WORDS) != NONE;
-                if (!mayBegin(tape, fits, i < MAX_TERMS)
-                        || !readTerm(tape, statement * MAX_TERMS + i)) {
-                    return false;
-                }
-                terms[statement] = i + 1;
-                if (!tape.isWord("and")) {
-                    return true;
-                }
-                tape.next();
-            }
-            return false;
-        }
-
-        private boolean readTerm(Tape tape, int term) {
-            negated[term] = tape.isWord("not");
-            if (negated[term]) {
-                tape.next();
-            }
-            words[term] = tape.wordIn(WORDS);
-            if (!take(tape, words[term] != NONE)) {
-                return false;
-            }
-            relations[term] = tape.sign();
-            if (!take(tape, within(relations[term], LESS, MORE))) {
-                return false;
-            }
-            values[term] = tape.number();
-            return take(tape, values[term] != NONE);
-        }
-
-        private boolean mayBegin(Tape tape, boolean fits, boolean hasRoom) {
-            return fits && hasRoom || refuse(tape, fits ? 2 : 1);
-        }
-
-        private boolean take(Tape tape, boolean fits) {
-            if (!fits) {
+            if (verb == NONE) {
                 return refuse(tape, 1);
             }
-            tape.next();
-            return true;
+            if (lengths[texts] >= MAX_STATEMENTS) {
+                return refuse(tape, 2);
+            }
+            lengths[texts]++;
+            verbs[statementAtHand()] = verb;
+            terms[statementAtHand()] = 0;
+            return verb == BAR ? WANT_DEED : WANT_AMOUNT;
         }
 
-        private boolean refuse(Tape tape, int kind) {
+        private int takeObject(Tape tape, int object) {
+            if (object == NONE) {
+                return refuse(tape, 1);
+            }
+            objects[statementAtHand()] = object;
+            return WANT_IF;
+        }
+
+        private int takeTerm(Tape tape) {
+            boolean not = tape.isWord("not");
+            int word = tape.wordIn(WORDS);
+            if (!not && word == NONE) {
+                return refuse(tape, 1);
+            }
+            if (terms[statementAtHand()] >= MAX_TERMS) {
+                return refuse(tape, 2);
+            }
+            terms[statementAtHand()]++;
+            negated[termAtHand()] = not;
+            return not ? WANT_WORD : takeWord(tape, word);
+        }
+
+        private int takeWord(Tape tape, int word) {
+            if (word == NONE) {
+                return refuse(tape, 1);
+            }
+            words[termAtHand()] = word;
+            return WANT_RELATION;
+        }
+
+        private int takeRelation(Tape tape) {
+            int sign = tape.sign();
+            if (!within(sign, LESS, MORE)) {
+                return refuse(tape, 1);
+            }
+            relations[termAtHand()] = sign;
+            return WANT_VALUE;
+        }
+
+        private int takeValue(Tape tape) {
+            int value = tape.number();
+            if (value == NONE) {
+                return refuse(tape, 1);
+            }
+            values[termAtHand()] = value;
+            return WANT_JOINT;
+        }
+
+        private int takeJoint(Tape tape) {
+            if (tape.isWord("and")) {
+                return WANT_TERM;
+            }
+            return tape.sign() == SEMICOLON ? WANT_STATEMENT : refuse(tape, 1);
+        }
+
+        private int statementAtHand() {
+            return texts * MAX_STATEMENTS + lengths[texts] - 1;
+        }
+
+        private int termAtHand() {
+            return statementAtHand() * MAX_TERMS + terms[statementAtHand()] - 1;
+        }
+
+        private int refuse(Tape tape, int kind) {
             faultKind = kind;
             faultPlace = tape.tokenFrom;
-            return false;
+            return WANT_NOTHING;
         }
 
         void askOfDay(Sky sky) {
