@@ -309,11 +309,10 @@ public final class TimberValley {
         log.came = sky.today;
         if (one.kind == STREAM && sky.now(Sky.WATER) == 9 && log.wide > 30) {
             become(log, SUNK);
-        } else if (log.cell == land.millCell) {
-            become(log, IN_POND);
         }
     }
 
+    /** What came to the MILL's CELL today need not be told from what fell there: none goes on. */
     private void floatLogsAtMill() {
         if (land.logsLying[land.millCell] == 0) {
             return;
@@ -1904,15 +1903,11 @@ public final class TimberValley {
                 lookAhead(season);
             }
             int before = 0;
-            int least = 0;
             for (int season = 0; season < SEASONS; season++) {
                 chosen[season] = firstBest(season, before);
-                if (season == 0) {
-                    least = from[0][chosen[0]] + setCost[chosen[0]];
-                }
                 before = chosen[season];
             }
-            return least;
+            return costBehind(0, 0, chosen[0]);
         }
 
         private void addUpSets() {

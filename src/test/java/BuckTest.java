@@ -48,7 +48,9 @@ public final class BuckTest {
 
     private static void rows() {
         TimberValley x = new TimberValley();
-        Check.is("row", 10 * 29, x.worth(0, 3, 2));
+        for (int units = 2; units <= 6; units++) {
+            Check.is("10 at first each", 10 * (31 - units), x.worth(0, 3, units));
+        }
         Check.is("row", 10 * 29 + 10 * 26, x.worth(0, 3, 23));
         Check.is("row", 10 * 28 + 10 * 26, x.worth(0, 3, 32));
         Check.is("row", 10 * (29 + 27 + 25 + 23 + 21), x.worth(0, 3, 22222));

@@ -191,6 +191,27 @@ public final class CarryTest {
         x.weather(6, 0, 0, 0);
         Check.is("the last", 1, x.day());
         Check.is("all lie there", 9, x.of(1, 2));
+        justFull();
+    }
+
+    private static void justFull() {
+        TimberValley x = new TimberValley();
+        x.crew(0);
+        x.cell(3, 4);
+        x.stand(2, 3, 3, 2);
+        x.fall(0, 2, 3, 3, 4);
+        x.fall(0, 2, 3, 3, 2);
+        Check.is("volume", 16, x.log(0, 7));
+        Check.is("volume", 9, x.log(1, 7));
+        x.way(0, 2, 3);
+        x.weather(0, 2, 0, 0);
+        Check.is("carry", 16, x.carry(0));
+        x.day();
+        Check.is("not above", 1, x.day());
+        Check.is("just full", 3, x.log(0, 0));
+        x.cell(3, 0);
+        x.weather(2, 5, 0, 0);
+        Check.is("the other one", 1, x.day());
     }
 
     private static void wayByWay() {
@@ -252,6 +273,14 @@ public final class CarryTest {
         Check.is("carried", 1, x.day());
         Check.is("water 8: not sunk", 0, x.log(4, 6));
         Check.is("no more sunk", 2, x.count(24));
+        x.stand(2, 2, 3, 1);
+        x.fall(0, 2, 2, 3, 2);
+        x.day();
+        x.weather(5, 0, 9, 0);
+        x.day();
+        Check.is("wide", 31, x.log(5, 3));
+        Check.is("31 wide is sunk", 4, x.log(5, 6));
+        Check.is("its cell", 1, x.log(5, 0));
     }
 
     private static void pondAtOnce() {

@@ -151,6 +151,23 @@ public final class FireTest {
         Check.is("slash 3 and 15", 1, x.fire(27, 2, 1));
     }
 
+    private static void fromTheRim() {
+        TimberValley x = new TimberValley();
+        x.weather(0, 0, 0, 9);
+        int[] around = {10, 8, 17, 1};
+        for (int cell : around) {
+            x.stand(cell, 0, 2, 8);
+        }
+        Check.is("all four", 5, x.fire(9, 0, 1));
+        x.stand(0, 0, 2, 8);
+        x.stand(9, 0, 2, 8);
+        Check.is("the first cell", 1 + 2, x.fire(0, 0, 1));
+        Check.is("half", 4, x.of(0, 4));
+        Check.is("another fire, elsewhere", 1, x.fire(60, 0, 1));
+        Check.is("burns it no more", 4, x.of(0, 4));
+        Check.is("nor that", 8, x.of(9, 4));
+    }
+
     private static void burning() {
         TimberValley x = new TimberValley();
         x.crew(0);
@@ -178,8 +195,13 @@ public final class FireTest {
         Check.is("gone", 0, x.of(31, 4));
         x.stand(27, 0, 0, 1);
         x.stand(29, 0, 0, 1);
-        Check.is("the wind is 0: x more alone gets 43, x less 27", 3, x.burn(28));
+        Check.is("35 and the wind either way", 3, x.burn(28));
         x.weather(0, 0, 0, 8);
         Check.is("an empty cell burns too", 1, x.burn(60));
+        for (int cell = 0; cell < 64; cell++) {
+            x.stand(cell, 0, 0, 1);
+        }
+        Check.is("three steps, not four", 10, x.burn(0));
+        fromTheRim();
     }
 }

@@ -108,6 +108,25 @@ public final class KnowTest {
         x.alter(0, 1, 1);
         Check.is("33 to 32, 2 to 3: the sum is right", -2, x.checked(0, 0));
         Check.is("no place", -3, x.checked(0, 1));
+        x.alter(0, 0, 1);
+        Check.is("2 to 3 alone", 1, x.checked(0, 0));
+        Check.is("what, where there is a place", -3, x.checked(0, 2));
+        greatestNumbers();
+    }
+
+    /** Two numbers more by as much look like the one between them less by twice that. */
+    private static void greatestNumbers() {
+        TimberValley x = oneLog();
+        x.alter(0, 0, 33 ^ 35);
+        x.alter(0, 2, 3 ^ 5);
+        Check.is("2 less 4, the rest by 65537", 1, x.checked(0, 0));
+        Check.is("65535 is a number", 65535, x.checked(0, 1));
+        x.stand(33, 1, 3, 1);
+        x.fall(0, 33, 1, 3, 3);
+        x.alter(1, 0, 33 ^ 34);
+        x.alter(1, 2, 3 ^ 4);
+        Check.is("65536 is none", -2, x.checked(1, 0));
+        Check.is("65536 is none", -3, x.checked(1, 1));
     }
 
     /** Every place and every number is tried against the answers. */

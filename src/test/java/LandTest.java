@@ -127,6 +127,8 @@ public final class LandTest {
         Check.no("snow", x.weather(10, -1, 1, 1));
         Check.no("water", x.weather(10, 1, 10, 1));
         Check.no("dry", x.weather(10, 1, 1, -1));
+        Check.no("dry", x.weather(10, 1, 1, 10));
+        Check.no("water", x.weather(10, 1, -1, 1));
         Check.is("day", -1, x.weatherOf(-1, 0));
         Check.is("day", -1, x.weatherOf(4000, 0));
         Check.is("what", -1, x.weatherOf(0, 3));
@@ -145,6 +147,24 @@ public final class LandTest {
         }
         Check.no("200 were told", x.weather(300, 1, 1, 1));
         Check.is("the last", 9, x.weatherOf(400, 0));
+    }
+
+    private static void everyCellGrows() {
+        TimberValley x = new TimberValley();
+        x.crew(0);
+        for (int cell = 0; cell < 64; cell++) {
+            x.stand(cell, cell % 4, 0, 100);
+        }
+        for (int i = 0; i < 4; i++) {
+            x.stand(63, 1, 1, 1);
+            x.fall(0, 63, 1, 1, 2);
+        }
+        Check.days(x, 100);
+        for (int cell = 0; cell < 64; cell++) {
+            Check.is("a fifth of every sort", 80, x.of(cell, 5 + 4 * (cell % 4)));
+            Check.is("a fifth of every sort", 20, x.of(cell, 6 + 4 * (cell % 4)));
+        }
+        Check.is("half of 12", 6, x.of(63, 1));
     }
 
     private static void years() {
@@ -175,6 +195,7 @@ public final class LandTest {
         Check.is("100 went, 100 came", 200, x.of(3, 10));
         Check.is("100 went", 100, x.of(3, 9));
         Check.is("half the slash", 1, x.of(3, 1));
+        everyCellGrows();
         Check.is("none is lost", 99 + 11 + 4 + 100 + 190 + 200 + 200 + 9, x.of(3, 4));
     }
 }

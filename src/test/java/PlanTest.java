@@ -150,6 +150,7 @@ public final class PlanTest {
     private static void wrongForty() {
         TimberValley x = new TimberValley();
         Check.is("a0", -1, x.forty(-1, 0, 0, 0, 0, 60, 0));
+        Check.is("a0", -1, x.forty(10, 0, 0, 0, 0, 60, 0));
         Check.is("a1", -1, x.forty(0, 10, 0, 0, 0, 60, 0));
         Check.is("a2", -1, x.forty(0, 0, 10, 0, 0, 60, 0));
         Check.is("a3", -1, x.forty(0, 0, 0, 10, 0, 60, 0));
@@ -171,6 +172,9 @@ public final class PlanTest {
         Check.is("period", -1, x.cutIn(-1, 0));
         Check.is("what", -1, x.cutIn(0, 2));
         Check.is("what", -1, x.cutIn(0, -1));
+        Check.is("all of class 3 in period 3 and 7", 90, x.forty(9, 0, 0, 0, 0, 60, 0));
+        Check.is("all of class 3 in period 3", 9, x.cutIn(3, 0));
+        Check.is("all of class 3 in period 7", 9, x.cutIn(7, 0));
     }
 
     private static int bestYield;
