@@ -20,7 +20,7 @@ public final class TimberValley {
     private static final int MAX_DOUBLES = 60;
     private static final int MAX_IRON = 5000;
     private static final int RAIL_IRON = 10;
-    private static final int LEFT_NOTHING = -1000000;
+    private static final int NO_LEAVE = -1000000;
 
     private static final int LYING = 0;
     private static final int IN_POND = 1;
@@ -434,7 +434,7 @@ public final class TimberValley {
 
     public int leave(int crew) {
         Crew one = crewAt(crew);
-        return one == null || one.left ? LEFT_NOTHING : one.settleForGood();
+        return one == null || one.left ? NO_LEAVE : one.settleForGood();
     }
 
     public int crewOf(int crew, int what) {
