@@ -2019,10 +2019,10 @@ public final class TimberValley {
             int best = NONE;
             for (int three = 0; three <= b3 && 5 * three <= greatest; three++) {
                 for (int two = 0; two <= b2; two++) {
-                    int yield = 5 * three + 2 * two;
+                    int gained = 5 * three + 2 * two;
                     int rest = yields[period + 1][state(three + two, b0, b1)];
-                    if (within(yield, least, greatest) && rest != NONE && yield + rest > best) {
-                        best = yield + rest;
+                    if (within(gained, least, greatest) && rest != NONE && gained + rest > best) {
+                        best = gained + rest;
                         cut3 = three;
                         cut2 = two;
                     }

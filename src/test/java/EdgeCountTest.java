@@ -90,6 +90,7 @@ public final class EdgeCountTest {
         for (int i = 0; i < 20; i++) {
             x.crew(i % 10);
         }
+        x.mill(56);
         x.stand(63, 3, 3, 200);
         x.cell(63, 40);
         for (int i = 0; i < 60; i++) {
@@ -110,10 +111,12 @@ public final class EdgeCountTest {
         for (int i = 0; i < 200; i++) {
             Check.yes("weather " + i, x.weather(i, 3, 9, 9));
         }
-        int calls = 20 + 2 + 60 + 40 + 60 + 30 + 9 + 200;
+        int calls = 20 + 3 + 60 + 40 + 60 + 30 + 9 + 200;
         for (int i = calls; i < 500; i++) {
             x.day();
         }
+        Check.yes("some are in the pond", x.count(21) > 0);
+        Check.is("fire", 1, x.fire(63, 0, 1));
         Check.is("what came is there", 300, x.count(20) + x.count(21) + x.count(22) + x.count(23) + x.count(24));
         Check.is("logs", 300, x.count(1));
         Edge.is(x, -5, "fall", 0, 63, 3, 3, 2);

@@ -216,7 +216,9 @@ public final class EdgeCrewTest {
         for (int[] one : cases) {
             TimberValley x = account(one[0], one[1], 5);
             Edge.is(x, one[2], "leave", 0);
+            Edge.is(x, 0, "crewOf", 0, 1);
             Edge.is(x, one[3], "crewOf", 0, 2);
+            Edge.is(x, one[2] > 0 ? one[2] : 0, "crewOf", 0, 3);
             Edge.is(x, 1, "crewOf", 0, 4);
             Edge.is(x, -1000000, "leave", 0);
             Edge.is(x, one[3], "crewOf", 0, 2);

@@ -58,6 +58,10 @@ public final class EdgeCruiseTest {
                 Edge.is(x, 1, "write", r, 2, 3);
                 Edge.is(x, floats ? 6 : 24, "each", r, 1);
             }
+            // no hole is left of the row that was there
+            Edge.is(x, 1, "row", r, false, 3);
+            Edge.is(x, 1, "write", r, 0, 9);
+            Edge.is(x, 0, "each", r, 1);
             Edge.is(x, 1, "row", r, false, 2);
             Edge.is(x, 0, "cruise", r, 0);
             Edge.is(x, Edge.THROWS, "each", r, 2);

@@ -192,14 +192,19 @@ public final class EdgeFireTest {
 
     private static void theRim() {
         Edge.says("each CELL that burns sets fire to each side by side");
-        int[] corners = {0, 7, 56, 63};
-        for (int corner : corners) {
+        for (int from = 0; from < 64; from++) {
             TimberValley x = new TimberValley();
             x.weather(0, 0, 0, 9);
             for (int cell = 0; cell < 64; cell++) {
                 x.stand(cell, 0, 0, 1);
             }
-            Check.is("from corner " + corner, 3, x.fire(corner, 0, 1));
+            int due = 1 + (from % 8 > 0 ? 1 : 0) + (from % 8 < 7 ? 1 : 0) + (from / 8 > 0 ? 1 : 0)
+                    + (from / 8 < 7 ? 1 : 0);
+            Check.is("from " + from, due, x.fire(from, 0, 1));
+            for (int cell = 0; cell < 64; cell++) {
+                int apart = Math.abs(cell % 8 - from % 8) + Math.abs(cell / 8 - from / 8);
+                Edge.is(x, apart <= 1 ? 0 : 1, "of", cell, 4);
+            }
         }
         TimberValley all = new TimberValley();
         all.weather(0, 0, 0, 9);
@@ -231,6 +236,15 @@ public final class EdgeFireTest {
         Edge.is(x, 2, "fire", 28, 0, 20);
         Edge.is(x, 25, "of", 27, 4);
         Edge.is(x, 25, "of", 28, 4);
+        // another FIRE elsewhere leaves alone what burnt in the one ahead
+        for (int cell = 0; cell < 64; cell++) {
+            TimberValley y = new TimberValley();
+            y.stand(cell, 0, 3, 100);
+            Edge.is(y, 1, "fire", cell, 0, 1);
+            int other = (cell + 20) % 64;
+            Edge.is(y, 1, "fire", other, 0, 1);
+            Edge.is(y, 50, "of", cell, 4);
+        }
     }
 
     private static void whatIsLeft() {

@@ -248,6 +248,12 @@ public final class EdgeKnowTest {
         // the sum of all is right, the other one isn't
         Edge.is(x, -2, "checked", 0, 0);
         Edge.is(x, -3, "checked", 0, 1);
+        // 1 more at 0 and 5 less at 4: a place behind the last one would make both right
+        TimberValley z = registered();
+        Edge.is(z, 1, "alter", 0, 0, 33 ^ 34);
+        Edge.is(z, 1, "alter", 0, 4, 7 ^ 2);
+        Edge.is(z, -2, "checked", 0, 0);
+        Edge.is(z, -3, "checked", 0, 1);
         TimberValley y = registered();
         Edge.is(y, 1, "alter", 0, 0, 33 ^ 34);
         Edge.is(y, 1, "alter", 0, 4, 7 ^ 3);

@@ -399,6 +399,17 @@ public final class EdgeLandTest {
 
     private static void growOfASort() {
         Edge.says("GROW (0 to 100; 20 at first)");
+        TimberValley first = new TimberValley();
+        for (int sort = 0; sort < 4; sort++) {
+            first.stand(8, sort, 0, 200);
+            first.stand(8, sort, 2, 199);
+        }
+        Check.days(first, 100);
+        for (int sort = 0; sort < 4; sort++) {
+            Edge.is(first, 160, "of", 8, 5 + 4 * sort);
+            Edge.is(first, 40, "of", 8, 6 + 4 * sort);
+            Edge.is(first, 39, "of", 8, 8 + 4 * sort);
+        }
         int[] grow = {100, 20, 0, 50};
         int[] goes = {60, 12, 0, 30};
         TimberValley x = new TimberValley();

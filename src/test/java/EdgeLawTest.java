@@ -1,8 +1,4 @@
-import java.util.ArrayList;
-import java.util.List;
 import java.util.Random;
-import java.util.regex.Matcher;
-import java.util.regex.Pattern;
 
 /** The edges of part 3 and of promises 19 to 25: the tape, texts of law, what is barred and due. */
 public final class EdgeLawTest {
@@ -111,6 +107,15 @@ public final class EdgeLawTest {
         Edge.is(x, 15, "end", 15);
         Edge.is(x, 35, "feed", 0x20202020, 0x20202020, 0x20202020, 0x20202020, 0x20202020);
         Edge.is(x, 1, "law", 0);
+        // a word and a number end where the TAPE does
+        Check.tape(x, "bar cutter 12345");
+        Edge.is(x, 7, "end", 7);
+        Edge.is(x, -2, "law", 0);
+        Edge.is(x, 7, "place");
+        Check.tape(x, "pay 12345 if");
+        Edge.is(x, 8, "end", 8);
+        Edge.is(x, -2, "law", 0);
+        Edge.is(x, 8, "place");
     }
 
     private static void lawDays() {
@@ -181,6 +186,11 @@ public final class EdgeLawTest {
         good(12, "pay 1111 if season=1111;".repeat(12) + " ".repeat(12));
         bad(2, 288, "pay 1111 if season=1111;".repeat(12) + "pay 1 if day");
         bad(1, 299, " ".repeat(299) + "!");
+        bad(1, 300, " ".repeat(293) + "bar cut");
+        bad(1, 300, " ".repeat(292) + "pay 1234");
+        bad(1, 295, " ".repeat(295) + "12345");
+        bad(1, 0, "a".repeat(300));
+        bad(1, 0, "7".repeat(300));
         good(0, " ".repeat(300));
         good(0, "");
     }
@@ -350,7 +360,7 @@ public final class EdgeLawTest {
         Random random = new Random(7);
         for (int round = 0; round < 6000; round++) {
             String text = spoiled(random, anyText(random));
-            int[] due = judged(text);
+            int[] due = Model.judged(text);
             TimberValley x = new TimberValley();
             Check.is(text, due[0], Check.law(x, 0, text));
             Check.is("place in " + text, due[1], x.place());
@@ -386,67 +396,6 @@ public final class EdgeLawTest {
             s.replace(at, to, bits[random.nextInt(bits.length)]);
         }
         return s.length() > 300 ? s.substring(0, 300) : s.toString();
-    }
-
-    private static final Pattern GRAMMAR = Pattern.compile("((bw|pd)in?xrd(an?xrd)*;)*");
-
-    /** The answer of law() and of place(), by the kinds of the TOKENS as letters. */
-    private static int[] judged(String text) {
-        List<Integer> places = new ArrayList<>();
-        StringBuilder kinds = new StringBuilder();
-        Matcher tokens = Pattern.compile("[a-z]+|[0-9]+|[^ \n]").matcher(text);
-        while (tokens.find()) {
-            places.add(tokens.start());
-            kinds.append(kindOf(tokens.group()));
-        }
-        places.add(text.length());
-        int statements = 0;
-        int terms = 0;
-        for (int i = 0; i < kinds.length(); i++) {
-            Matcher upTo = GRAMMAR.matcher(kinds.substring(0, i + 1));
-            if (!upTo.matches() && !upTo.hitEnd()) {
-                return new int[] {-2, places.get(i)};
-            }
-            char kind = kinds.charAt(i);
-            char ahead = i == 0 ? ';' : kinds.charAt(i - 1);
-            statements += ahead == ';' ? 1 : 0;
-            terms = ahead == 'i' ? 1 : ahead == 'a' ? terms + 1 : terms;
-            boolean first = ahead == ';' || ahead == 'a';
-            if (first && (statements > 12 || kind != ';' && terms > 5 && ahead == 'a')) {
-                return new int[] {-3, places.get(i)};
-            }
-        }
-        boolean whole = GRAMMAR.matcher(kinds).matches();
-        return whole ? new int[] {statements, -1} : new int[] {-2, text.length()};
-    }
-
-    private static char kindOf(String token) {
-        if (token.matches("[0-9]+")) {
-            return token.length() <= 4 ? 'd' : '?';
-        }
-        switch (token) {
-            case "bar":
-                return 'b';
-            case "pay", "credit", "rent":
-                return 'p';
-            case "cut", "carry", "fire":
-                return 'w';
-            case "if":
-                return 'i';
-            case "not":
-                return 'n';
-            case "and":
-                return 'a';
-            case "<", "=", ">":
-                return 'r';
-            case ";":
-                return ';';
-            case "cell", "height", "sort", "class", "season", "day", "snow", "water", "dry", "far", "slash", "crew",
-                    "way":
-                return 'x';
-            default:
-                return '?';
-        }
     }
 
     private static void faultChangesNothing() {

@@ -88,6 +88,15 @@ public final class EdgeMillTest {
         Edge.is(x, -1, "order", 1, 2, 1, 1, 10);
         Edge.is(x, 30, "count", 7);
         Edge.is(x, Edge.THROWS, "orderOf", 30, 0);
+        TimberValley last = pond(NO_FAULT);
+        for (int i = 0; i < 29; i++) {
+            last.order(9, 2, 1, 99, 10);
+        }
+        last.order(8, 2, 1, 3, 10);
+        Edge.is(last, 3, "best", 0);
+        Edge.is(last, 29, "board", 0, 0);
+        Edge.is(last, 1, "saw", 0);
+        Edge.is(last, 0, "orderOf", 29, 0);
     }
 
     private static void shipDays() {

@@ -327,7 +327,7 @@ public final class EdgePlanTest {
         int[] highest = {9, 9, 9, 9, 60, 60, 12};
         for (int which = 0; which < 7; which++) {
             for (int v : new int[] {-1, highest[which] + 1, LOW, HIGH}) {
-                Object[] given = {1, 1, 1, 1, 0, 60, 0};
+                Object[] given = {0, 0, 0, 0, 0, 60, 0};
                 given[which] = v;
                 Edge.refuses(RICH, -1, "forty", given);
             }

@@ -200,7 +200,7 @@ public final class EdgeStemTest {
                 Edge.is(x, piece ? 10 * (31 - figure + 29 - figure) : -1, "worth", 0, 3, 10 * figure + 2);
             }
         }
-        for (int row : new int[] {202, 212, 272, 292, 2022, 20, 22220, -2, -22, -4, LOW, HIGH, 222222222, 1000000002}) {
+        for (int row : new int[] {1222, 1333, 1322, 12222, 122, 7222, 8222, 9222, 202, 212, 272, 292, 2022, 20, 22220, -2, -22, -4, LOW, HIGH, 222222222, 1000000002}) {
             Edge.is(x, -1, "worth", 0, 3, row);
         }
         x.price(2, 1);

@@ -27,6 +27,7 @@ public final class EdgeWayTest {
         carryNumbers();
         earlierDay();
         notAbove();
+        leastVolume();
         nextLogIsTried();
         carriedOnItToday();
         byNumbers();
@@ -348,6 +349,29 @@ public final class EdgeWayTest {
             Edge.is(x, one[3], "day");
             Edge.is(x, one[3], "of", 10, 2);
             Edge.is(x, 3 - one[3], "of", 9, 2);
+        }
+    }
+
+    private static void leastVolume() {
+        Edge.says("VOLUME: UNITS times WIDE, by 8, rounded down, and 1.");
+        int[][] snowAndCarry = {{2, 1, 1}, {1, 2, 2}, {3, 0, 0}};
+        for (int[] one : snowAndCarry) {
+            TimberValley x = new TimberValley();
+            x.mill(63);
+            x.crew(0);
+            x.sort(0, 20, 3);
+            x.stand(9, 0, 0, 9);
+            x.cell(10, 9);
+            x.way(SKID, 9, 10);
+            x.weather(0, one[0], 5, 3);
+            for (int i = 0; i < 3; i++) {
+                x.fall(0, 9, 0, 0, 4);
+            }
+            Edge.is(x, 1, "log", 0, 7);
+            Edge.is(x, one[1], "carry", 0);
+            x.day();
+            Edge.is(x, one[2], "day");
+            Edge.is(x, one[2], "of", 10, 2);
         }
     }
 
