@@ -1103,9 +1103,12 @@ public final class TimberValley {
             return true;
         }
 
+        /** How many figures a row has; those beyond one too many are not counted. */
         private static int figuresOf(int row) {
             int figures = 0;
-            for (int rest = row; rest > 0; rest /= 10) {
+            int rest = row;
+            while (rest > 0 && figures <= MAX_PIECES) {
+                rest /= 10;
                 figures++;
             }
             return figures;
@@ -1863,8 +1866,8 @@ public final class TimberValley {
         private static final int TOO_DEAR = 100000000;
         private static final int PERIODS = 8;
         private static final int MAX_AREAS = 12;
-        private static final int BASE = MAX_AREAS + 1;
-        private static final int STATES = BASE * BASE * BASE;
+        private static final int STATES =
+                (MAX_AREAS + 1) * (MAX_AREAS + 2) * (MAX_AREAS + 3) / 6;
 
         private final int[] spurCells = new int[MAX_SPURS];
         private final int[] spurIron = new int[MAX_SPURS];
@@ -1984,8 +1987,12 @@ public final class TimberValley {
             return sum;
         }
 
+        /** States are numbered without gaps, those of fewer areas ahead, to keep the rows short. */
         private static int state(int b0, int b1, int b2) {
-            return (b0 * BASE + b1) * BASE + b2;
+            int belowTwo = b0 + b1;
+            int belowThree = belowTwo + b2;
+            return belowThree * (belowThree + 1) * (belowThree + 2) / 6
+                    + belowTwo * (belowTwo + 1) / 2 + b0;
         }
 
         private void weighPeriod(int period, int all, int least, int greatest, int kept) {
@@ -1996,7 +2003,8 @@ public final class TimberValley {
                         if (period == PERIODS) {
                             yields[period][now] = all - b0 - b1 - b2 >= kept ? 0 : NONE;
                         } else if (canBe(period, b0, b1, b2)) {
-                            yields[period][now] = bestCut(period, now, all, least, greatest);
+                            yields[period][now] =
+                                    bestCut(period, b0, b1, b2, all, least, greatest);
                         }
                     }
                 }
@@ -2011,10 +2019,7 @@ public final class TimberValley {
         }
 
         /** Sets the first of the best cuts in a state and answers its sum, or NONE. */
-        private int bestCut(int period, int now, int all, int least, int greatest) {
-            int b0 = now / (BASE * BASE);
-            int b1 = now / BASE % BASE;
-            int b2 = now % BASE;
+        private int bestCut(int period, int b0, int b1, int b2, int all, int least, int greatest) {
             int b3 = all - b0 - b1 - b2;
             int best = NONE;
             for (int three = 0; three <= b3 && 5 * three <= greatest; three++) {
@@ -2036,7 +2041,7 @@ public final class TimberValley {
             int b1 = start[1];
             int b2 = start[2];
             for (int period = 0; period < PERIODS; period++) {
-                bestCut(period, state(b0, b1, b2), all, least, greatest);
+                bestCut(period, b0, b1, b2, all, least, greatest);
                 cuts[2 * period] = cut3;
                 cuts[2 * period + 1] = cut2;
                 b2 = b1;

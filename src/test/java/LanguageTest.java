@@ -1,6 +1,12 @@
+import java.lang.reflect.Field;
+import java.lang.reflect.Method;
+import java.lang.reflect.Modifier;
 import java.nio.file.Files;
 import java.nio.file.Path;
+import java.util.ArrayList;
 import java.util.List;
+import java.util.Set;
+import java.util.TreeSet;
 import java.util.regex.Matcher;
 import java.util.regex.Pattern;
 
@@ -18,6 +24,7 @@ public final class LanguageTest {
             for (String one : FORBIDDEN) {
                 Check.no(one + " in: " + line, Pattern.compile(one).matcher(code).find());
             }
+            Check.no("a loop without a bound: " + line, Pattern.compile("\\bwhile \\([^<]*$|\\bfor \\(;;").matcher(code).find());
             Check.yes("signs of: " + line, line.chars().allMatch(c -> c < 128));
             Check.no("import: " + line, code.startsWith("import")
                     && !code.equals("import java.util.NoSuchElementException;"));
@@ -25,7 +32,32 @@ public final class LanguageTest {
         }
         Check.yes("classes: " + classes, classes <= 12);
         methods(lines);
+        members();
         Check.end();
+    }
+
+    /** Rule 1: no other method bears a public one's name; rule 11: some twenty fields a class. */
+    private static void members() {
+        Set<String> face = new TreeSet<>();
+        for (Method m : TimberValley.class.getDeclaredMethods()) {
+            if (Modifier.isPublic(m.getModifiers())) {
+                face.add(m.getName());
+            }
+        }
+        List<Class<?>> all = new ArrayList<>(List.of(TimberValley.class.getDeclaredClasses()));
+        all.add(TimberValley.class);
+        for (Class<?> one : all) {
+            for (Method m : one.getDeclaredMethods()) {
+                Check.no("a public name: " + m, !Modifier.isPublic(m.getModifiers()) && face.contains(m.getName()));
+            }
+            int fields = 0;
+            for (Field f : one.getDeclaredFields()) {
+                fields += Modifier.isStatic(f.getModifiers()) ? 0 : 1;
+                Check.yes("static and not final: " + f,
+                        !Modifier.isStatic(f.getModifiers()) || Modifier.isFinal(f.getModifiers()));
+            }
+            Check.yes("fields of " + one + ": " + fields, fields <= 20);
+        }
     }
 
     private static void methods(List<String> lines) {
